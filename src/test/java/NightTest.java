@@ -9,6 +9,7 @@ public final class NightTest {
         kinds(c);
         ears(c);
         standing(c);
+        one(c);
         stops(c);
         soundInNights(c);
         drawn(c);
@@ -107,6 +108,18 @@ public final class NightTest {
         states(c, x, 1, 2, 2, 10, 7, 11, 7);
         states(c, x, 3, 2, 4, 10, 6, 11, 6);
         states(c, x, 5, 2, 6, 10, 6, 11, 6);
+    }
+
+    /** What one does is done by him alone. */
+    private static void one(Check c) {
+        CityChords x = nightOf("size 8 2;fiddle 0 0;fiddle 7 0;thief 0 0;thief 7 0;citizen 6 0;",
+            "stand 0;stand 1;free 0;tell 1;tell 0;free 1;");
+        states(c, x, 1, 0, 1);
+        states(c, x, 2, 0, 7);
+        states(c, x, 3, 0, 6);
+        states(c, x, 4, 0, 6, 1, 2);
+        states(c, x, 5, 1, 3);
+        states(c, x, 6, 0, 0, 1, 3, 2, 9);
     }
 
     private static void stops(Check c) {

@@ -76,6 +76,12 @@ public final class OracleTest {
                 c.due(name + "cordon " + a + " " + b, x.cordon(0, a, b), plain.cordon(a, b));
             }
         }
+        for (int a = 0; a < cells && cells >= 30; a++) {
+            for (int b = plain.text.length() % 5; b < cells; b += 5) {
+                int due = plain.wall[a] || plain.wall[b] || a == b || plain.isNext(a, b) ? -1 : plain.cordonByWays(a, b);
+                c.due(name + "cordon " + a + " " + b, x.cordon(0, a, b), due);
+            }
+        }
         for (int p = 0; p < plain.players.size(); p++) {
             c.due(name + "round " + p, x.round(0, p), plain.round(p));
         }

@@ -308,12 +308,16 @@ final class Plain {
         return all;
     }
 
-    int cordon(int a, int b) {
+    boolean isNext(int a, int b) {
         boolean near = false;
         for (int d = 0; d < 4; d++) {
             near |= next(a, d) == b;
         }
-        if (wall[a] || wall[b] || a == b || near) {
+        return near;
+    }
+
+    int cordon(int a, int b) {
+        if (wall[a] || wall[b] || a == b || isNext(a, b)) {
             return -1;
         }
         for (int many = 0; many <= 4; many++) {
@@ -336,6 +340,41 @@ final class Plain {
                 if (done) {
                     return true;
                 }
+            }
+        }
+        return false;
+    }
+
+    /** As many ways that share no cell as can be found one by one: for cities too large for trying all walls. */
+    int cordonByWays(int a, int b) {
+        int n = wall.length;
+        boolean[][] room = new boolean[2 * n][2 * n];
+        for (int cell = 0; cell < n; cell++) {
+            room[cell][n + cell] = true;
+            for (int d = 0; d < 4; d++) {
+                int to = step(cell, d);
+                if (to >= 0) {
+                    room[n + cell][to] = true;
+                }
+            }
+        }
+        int ways = 0;
+        while (push(room, n + a, b, new boolean[2 * n])) {
+            ways++;
+        }
+        return ways;
+    }
+
+    private boolean push(boolean[][] room, int from, int to, boolean[] seen) {
+        if (from == to) {
+            return true;
+        }
+        seen[from] = true;
+        for (int next = 0; next < room.length; next++) {
+            if (room[from][next] && !seen[next] && push(room, next, to, seen)) {
+                room[from][next] = false;
+                room[next][from] = true;
+                return true;
             }
         }
         return false;

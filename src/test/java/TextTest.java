@@ -8,6 +8,7 @@ public final class TextTest {
         tape(c);
         places(c);
         tokens(c);
+        words(c);
         numbers(c);
         tooMany(c);
         wholeTexts(c);
@@ -159,6 +160,35 @@ public final class TextTest {
         c.faulty(3, "says 0 0;", 1, 0);
     }
 
+    /** Every word with every letter changed, cut off or doubled is none. */
+    private static void words(Check c) {
+        String[] lines = {"size 4 4;", "wall 1 1;", "fiddle 1 1;", "flute 1 1;", "drum 1 1;", "horn 1 1;", "citizen 1 1;",
+            "thief 1 1;", "child 1 1;", "deaf 1 1;", "wind 1;", "value 1;", "stand 1;", "free 1;", "tell 1;", "march 1 1;",
+            "walk 1 1;", "go 1 1;", "rest;", "says 1 1;", "denies 1 1;", "voices 1;", "thieves 1;", "loud 1 1;", "quiet 1 1;"};
+        for (int k = 0; k < lines.length; k++) {
+            int sort = k < 12 ? 0 : k < 19 ? 1 : k < 23 ? 2 : 3;
+            String line = lines[k];
+            int length = line.split("[ ;]")[0].length();
+            if (k != 11) {
+                c.faulty(sort, line, 0, NONE);
+            }
+            for (int at = 0; at < length; at++) {
+                c.faulty(sort, line.substring(0, at) + "x" + line.substring(at + 1), 1, 0);
+                c.faulty(sort, line.substring(0, at) + line.substring(at + 1), 1, 0);
+                c.faulty(sort, line.substring(0, at) + line.charAt(at) + line.substring(at), 1, 0);
+            }
+            for (int other = 0; other < 4; other++) {
+                if (other != sort) {
+                    c.faulty(other, line, 1, 0);
+                }
+            }
+        }
+        for (String command : new String[] {"stand", "free", "tell", "march"}) {
+            c.faulty(0, "value " + command + " 1;", 0, NONE);
+            c.faulty(0, "value x" + command.substring(1) + " 1;", 1, 6);
+        }
+    }
+
     private static void numbers(Check c) {
         c.faulty(0, "size 2 8;size 8 2;", 0, NONE);
         c.faulty(0, "size 9 2;", 2, 5);
@@ -238,6 +268,13 @@ public final class TextTest {
         c.faulty(0, "wall 0 0;horn 0 0;wall 6 0;", 4, 27);
         c.faulty(0, "wall 0 0;wall 0 0;", 0, NONE);
         c.faulty(0, "wall 7 0;horn 7 0;", 4, 18);
+        for (String name : new String[] {"horn", "deaf"}) {
+            String others = name + " 1 1;" + name + " 2 1;";
+            c.faulty(0, "wall 0 0;" + name + " 0 0;" + others, 5, 36);
+            c.faulty(0, name + " 0 6;" + others, 4, 27);
+            c.faulty(0, "wall 2 1;" + others + name + " 0 0;", 5, 36);
+        }
+        c.faulty(0, "wall 7 0;wall 1 1;", 4, 18);
         c.faulty(2, "says 4 0;", 4, 9);
         c.faulty(2, "denies 0 4;", 4, 11);
         c.faulty(2, "says 3 3;", 0, NONE);
