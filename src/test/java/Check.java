@@ -63,6 +63,15 @@ final class Check {
         return x;
     }
 
+    /** Two CITIES: index 0 and 1 are there, no other is. */
+    static CityChords citiesOf(String first, String second) {
+        CityChords x = cityOf(first);
+        if (tell(x, CITY, second) != 1) {
+            throw new IllegalStateException("no city: " + second + " fault " + x.fault(0) + " at " + x.fault(1));
+        }
+        return x;
+    }
+
     /** A text has a FAULT at a place; the object is to have no text of this sort yet. */
     void faulty(int sort, String text, int fault, int place) {
         CityChords x = new CityChords();

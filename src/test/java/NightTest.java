@@ -178,6 +178,7 @@ public final class NightTest {
             seed = start * 77777777;
             StringBuilder night = new StringBuilder();
             for (int k = 0; k < n; k++) {
+                x = nightOf(city, "");
                 int kind = below(8);
                 String line = kind == 7 ? "rest;" : null;
                 if (kind < 3) {

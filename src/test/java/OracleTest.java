@@ -2,7 +2,10 @@ import java.util.ArrayList;
 import java.util.List;
 import java.util.Random;
 
-/** Promises 10 to 28 over cities, trials and sights drawn by fixed seeds, against plain ways to find the same. */
+/**
+ * Promises 10 to 28 over cities, trials and sights drawn by fixed seeds, against plain ways to find the same. An object
+ * is used for 512 calls at most: further ones are made, where more is asked.
+ */
 public final class OracleTest {
     public static void main(String[] args) {
         Check c = new Check();
@@ -12,9 +15,9 @@ public final class OracleTest {
             String name = plain.text + " ";
             CityChords x = Check.cityOf(plain.text);
             sound(c, x, plain, name);
-            hunt(c, x, plain, name);
-            streets(c, x, plain, name, random);
-            crowd(c, x, plain, name);
+            hunt(c, Check.cityOf(plain.text), plain, name);
+            streets(c, Check.cityOf(plain.text), plain, name, random);
+            crowd(c, Check.cityOf(plain.text), plain, name);
             if (seed % 4 == 0) {
                 programme(c, x, plain, name);
             }
@@ -29,6 +32,7 @@ public final class OracleTest {
     private static void sound(Check c, CityChords x, Plain plain, String name) {
         int cells = plain.wall.length;
         for (int p = 0; p < plain.players.size(); p++) {
+            x = Check.cityOf(plain.text);
             int[] costs = plain.costs(plain.players.get(p)[1]);
             for (int cell = 0; cell < cells; cell++) {
                 c.due(name + "hears " + p + " " + cell, x.hears(0, p, cell), costs[cell]);
@@ -51,6 +55,7 @@ public final class OracleTest {
 
     private static void hunt(Check c, CityChords x, Plain plain, String name) {
         for (int p = 0; p < plain.players.size(); p++) {
+            x = Check.cityOf(plain.text);
             for (int a = 0; a < plain.people.size(); a++) {
                 if (plain.wall.length <= 25 || p == 0 && a == 0) {
                     c.due(name + "chase " + p + " " + a, x.chase(0, p, a), plain.chase(p, a));
@@ -77,6 +82,7 @@ public final class OracleTest {
             }
         }
         for (int a = 0; a < cells && cells >= 30; a++) {
+            x = Check.cityOf(plain.text);
             for (int b = plain.text.length() % 5; b < cells; b += 5) {
                 int due = plain.wall[a] || plain.wall[b] || a == b || plain.isNext(a, b) ? -1 : plain.cordonByWays(a, b);
                 c.due(name + "cordon " + a + " " + b, x.cordon(0, a, b), due);

@@ -16,7 +16,7 @@ public final class StaleTest {
 
     public static void main(String[] args) {
         Check c = new Check();
-        for (int seed = 0; seed < 60; seed++) {
+        for (int seed = 0; seed < 160; seed++) {
             Random random = new Random(seed);
             texts(c, random);
             answers(c, random);
@@ -42,7 +42,7 @@ public final class StaleTest {
         for (int sort = 0; sort < 4; sort++) {
             used.text(sort, CityChords.NONE);
         }
-        for (int k = 0; k < 8; k++) {
+        for (int k = 0; k < 3; k++) {
             int sort = random.nextInt(4);
             String text = lines(random, sort);
             CityChords fresh = new CityChords();
@@ -50,16 +50,19 @@ public final class StaleTest {
             c.due(text + " text", Check.tell(used, sort, text, 0), due);
             c.due(text + " fault", used.fault(0), fresh.fault(0));
             c.due(text + " place", used.fault(1), fresh.fault(1));
-            for (int what = 0; due == 0 && what < 164; what++) {
-                c.due(text + " city " + what, sort == 0 ? used.city(0, what) : -1, fresh.city(0, what));
-                c.due(text + " trial " + what, sort == 2 ? used.trial(0, what) : -2, fresh.trial(0, what));
+            for (int call = 0; due == 0 && call < 124; call++) {
+                c.due(text + " call " + call, told(used, sort, call), told(fresh, sort, call));
             }
-            for (int row = -1; due == 0 && row < 41; row++) {
-                for (int what = 0; what < 3; what++) {
-                    c.due(text + " deed", sort == 1 ? used.deed(0, row, what) : -2, fresh.deed(0, row, what));
-                    c.due(text + " fact", sort == 3 ? used.fact(0, row, what) : -2, fresh.fact(0, row, what));
-                }
-            }
+        }
+    }
+
+    /** What a text of a sort has told, call by call. */
+    private static int told(CityChords x, int sort, int call) {
+        switch (sort) {
+            case 0: return x.city(0, call < 60 ? call : call + 40);
+            case 1: return x.deed(0, call / 3 - 1, call % 3);
+            case 2: return x.trial(0, call);
+            default: return x.fact(0, call / 3 - 1, call % 3);
         }
     }
 

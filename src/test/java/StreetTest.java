@@ -32,15 +32,7 @@ public final class StreetTest {
         x = Check.cityOf("size 8 2;wall 3 0;wall 3 1;");
         c.due("never", x.steps(0, 0, 7), NONE);
         // The longest way there is: a snake through 8 by 8.
-        StringBuilder snake = new StringBuilder("size 8 8;");
-        for (int row = 1; row < 8; row += 2) {
-            for (int column = 0; column < 8; column++) {
-                if (column != (row % 4 == 1 ? 7 : 0)) {
-                    snake.append("wall").append(column).append(' ').append(row).append(';');
-                }
-            }
-        }
-        c.due("a snake", Check.cityOf(snake.toString()).steps(0, 0, 56), 35);
+        c.due("a snake", Check.cityOf(World.snake()).steps(0, 0, 56), 35);
     }
 
     private static void blocks(Check c) {

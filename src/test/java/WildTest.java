@@ -40,7 +40,12 @@ public final class WildTest {
         for (int calls = 0; calls < 512;) {
             if (random.nextInt(4) == 0) {
                 int sort = random.nextInt(4);
-                calls += put(x, someText(random, sort)) + 1;
+                String text = someText(random, sort);
+                calls += 3 + (text.length() + 19) / 20;
+                if (calls > 512) {
+                    return sum;
+                }
+                Check.put(x, text);
                 sum = sum * 31 + x.text(sort, random.nextInt(3) - 1);
             } else {
                 sum = sum * 31 + call(x, random, random.nextInt(31));
@@ -48,11 +53,6 @@ public final class WildTest {
             }
         }
         return sum;
-    }
-
-    private static int put(CityChords x, String text) {
-        Check.put(x, text);
-        return 2 + (text.length() + 19) / 20;
     }
 
     private static String someText(Random random, int sort) {
